@@ -586,7 +586,7 @@ public final class LetterBroker {
 
     private int complete(Channel channel, Draft draft) {
         channel.draft = null;
-        return channel.transacted ? keep(channel, new Deed(draft, 0, false, false)) : post(channel, draft);
+        return channel.transacted ? keep(channel, new Deed(draft)) : post(channel, draft);
     }
 
     private int post(Channel channel, Draft draft) {
@@ -704,7 +704,7 @@ public final class LetterBroker {
         if (!inbox.isJustRead()) {
             return BAD_BYTES;
         }
-        Deed deed = new Deed(null, n, upTo, back);
+        Deed deed = new Deed(n, upTo, back);
         if (!deed.coversAll() && !channel.holdsSomeOf(deed)) {
             return UNFIT;
         }
@@ -810,7 +810,7 @@ public final class LetterBroker {
                     || size > 2 && bytes[2] > MOST_PAYLOAD) {
                 return WRONG;
             }
-            if (size <= PAYLOAD_AT || size <= PAYLOAD_AT + bytes[2]) {
+            if (size < PAYLOAD_AT || size <= PAYLOAD_AT + bytes[2]) {
                 return MISSING;
             }
             at = PAYLOAD_AT;
@@ -872,16 +872,15 @@ public final class LetterBroker {
         }
 
         void dropHandled() {
-            if (handled > 0 && handled <= size) {
+            // A line that was shut has no bytes any more.
+            if (handled <= size) {
                 System.arraycopy(bytes, handled, bytes, 0, size - handled);
                 size -= handled;
             }
-            handled = 0;
         }
 
         void clear() {
             size = 0;
-            handled = 0;
         }
     }
 
@@ -1105,7 +1104,6 @@ public final class LetterBroker {
                     queues.remove(i);
                 }
             }
-            queue.deleted = true;
         }
 
         /** Of the willing ones, the first that came after the one served latest; else, round, the first of all. */
@@ -1171,16 +1169,13 @@ public final class LetterBroker {
         final long name;
         final List<Letter> waiting = new ArrayList<>();
         int latestServed;
-        boolean deleted;
 
         Queue(long name) {
             this.name = name;
         }
 
+        /** Of a queue that was deleted nobody asks any more: what comes back to it is gone. */
         void takeBack(Letter letter) {
-            if (deleted) {
-                return;
-            }
             letter.redelivered = true;
             int place = 0;
             while (place < waiting.size() && waiting.get(place).number < letter.number) {
@@ -1319,8 +1314,15 @@ public final class LetterBroker {
         private final boolean upTo;
         final boolean back;
 
-        Deed(Draft draft, int n, boolean upTo, boolean back) {
+        Deed(Draft draft) {
             this.draft = draft;
+            n = 0;
+            upTo = false;
+            back = false;
+        }
+
+        Deed(int n, boolean upTo, boolean back) {
+            draft = null;
             this.n = n;
             this.upTo = upTo;
             this.back = back;

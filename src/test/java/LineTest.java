@@ -95,6 +95,15 @@ public final class LineTest {
         c.due("1/0 10 10");
         c.stepIs(0);
         c.is("send", c.broker.send(0, 1), 2);
+        Client d = new Client("nothing behind the greeting");
+        d.send("65 77 81 80 0 0 9 1");
+        d.stepIs(1);
+        d.stepIs(0);
+        d.send("1 0");
+        d.stepIs(0);
+        d.send("2 10 11 206");
+        d.stepIs(1);
+        d.lineIs(2);
     }
 
     private static void wrongGreeting() {
