@@ -886,7 +886,7 @@ public final class LetterBroker {
 
     /** The bytes that the broker sent and the client did not receive yet, in a ring. */
     private static final class Outbox {
-        // A step begins below 500 bytes and adds at most 24 deliveries of 51 bytes, 12 letters returned of 41, an answer.
+        // A step begins below 500 bytes; it adds 24 deliveries of 51, 12 returned letters of 41, and an answer at most.
         private static final int ROOM = 2400;
 
         int size;
@@ -1307,7 +1307,7 @@ public final class LetterBroker {
         }
     }
 
-    /** What a channel does at once, or keeps for its commit: to post a draft, or (without one) to settle letters held. */
+    /** What a channel does at once or keeps for its commit: it posts a draft, or (without one) settles letters held. */
     private static final class Deed {
         final Draft draft;
         private final int n;

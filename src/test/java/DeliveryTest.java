@@ -18,6 +18,7 @@ public final class DeliveryTest {
         roundIsEachQueuesOwn();
         queuesInOrderOfDeclaration();
         deliveredAfterFramesOfOthers();
+        mostDeliveriesAtOnce();
         Client.end();
     }
 
@@ -330,5 +331,28 @@ public final class DeliveryTest {
         c.due("1/1 20 40 #406", "1/2 60 60 'u' #1 1 '' 'q'", "2/2 0");
         c.head(2, 0);
         c.due("1/2 60 60 'u' #2 0 '' 'q'", "2/2 0");
+    }
+
+    private static void mostDeliveriesAtOnce() {
+        Client c = Client.open("24 of the longest deliveries in one step", 1);
+        c.tell(1, "20 20 0");
+        c.tell(1, "40 10 'exchange' 1 0");
+        for (int i = 0; i < 4; i++) {
+            c.tell(1, "50 10 'q" + i + "' 0");
+            c.tell(1, "50 20 'q" + i + "' 'exchange' ''");
+            c.tell(1, "60 20 'q" + i + "' 'abcdefg" + i + "' 0");
+        }
+        for (int i = 0; i < 6; i++) {
+            c.tell(1, "60 40 'exchange' '12345678' 0");
+            c.head(1, 6);
+            c.body(1, "1 2 3 4 5 6");
+        }
+        for (int i = 0; i < 40; i++) {
+            c.tell(1, "60 10 0");
+        }
+        int before = c.broker.ready();
+        c.tell(1, "20 20 1");
+        c.channelIs(1, 1, 24);
+        c.is("ready()", c.broker.ready(), before + 7 + 24 * 51);
     }
 }
