@@ -167,7 +167,7 @@ public final class ChannelTest {
         c.tell(2, "10 11");
         c.forget();
         c.lineIs(5);
-        c.is("connect()", c.broker.connect() ? 1 : 0, 1);
+        c.connectIs(true);
         c.openLine();
         c.tell(1, "20 10");
         c.forget();

@@ -6,6 +6,9 @@ import java.util.List;
  * a short number, 'q' a name. A frame that is due is written with its kind and its channel in front: "1/0 10 10".
  */
 final class Client {
+    /** What is right on the line, from when it is greeted on. */
+    static final String[] LINE_METHODS = {"10 11", "10 31", "10 40", "10 50"};
+
     private static final int MOST_CALLS = 512;
     private static int wrong = 0;
 
@@ -25,6 +28,21 @@ final class Client {
             client.tell(c, "20 10");
         }
         client.forget();
+        return client;
+    }
+
+    /** A client whose line is in this state, 0 (NEW) to 4 (OPEN), with nothing left to receive. */
+    static Client inState(String story, int state) {
+        Client client = new Client(story + " (line " + state + ")");
+        if (state > 0) {
+            client.send("65 77 81 80 0 0 9 1");
+            client.stepIs(1);
+        }
+        for (int i = 1; i < state; i++) {
+            client.tell(0, LINE_METHODS[i - 1]);
+        }
+        client.forget();
+        client.lineIs(state);
         return client;
     }
 
@@ -83,6 +101,22 @@ final class Client {
         is("step()", broker.step(), due);
     }
 
+    void sendIs(long bytes, int n, int due) {
+        is("send(" + bytes + ", " + n + ")", broker.send(bytes, n), due);
+    }
+
+    void readyIs(int due) {
+        is("ready()", broker.ready(), due);
+    }
+
+    void receiveIs(int due) {
+        is("receive()", broker.receive(), due);
+    }
+
+    void connectIs(boolean due) {
+        is("connect()", broker.connect() ? 1 : 0, due ? 1 : 0);
+    }
+
     void lineIs(int due) {
         is("line()", broker.line(), due);
     }
@@ -130,6 +164,26 @@ final class Client {
         lineIs(4);
     }
 
+    /** On channel 1 of an open line, the last of these methods is a soft mistake of this number, the others are right. */
+    static void soft(String story, int number, String... methods) {
+        toldUpToTheLast(story, methods).softIs(1, number);
+    }
+
+    /** As soft(), but a hard mistake. */
+    static void hard(String story, int number, String... methods) {
+        toldUpToTheLast(story, methods).hardIs(number);
+    }
+
+    private static Client toldUpToTheLast(String story, String... methods) {
+        Client client = open(story, 1);
+        for (int i = 0; i < methods.length; i++) {
+            client.channelIs(1, 0, 1);
+            client.forget();
+            client.tell(1, methods[i]);
+        }
+        return client;
+    }
+
     void reopen(int channel) {
         tell(channel, "20 41");
         tell(channel, "20 10");
@@ -159,7 +213,7 @@ final class Client {
         return frame;
     }
 
-    private static List<Integer> bytesOf(String text) {
+    static List<Integer> bytesOf(String text) {
         List<Integer> bytes = new ArrayList<>();
         for (String word : text.trim().split(" +")) {
             if (word.startsWith("#")) {

@@ -353,6 +353,6 @@ public final class DeliveryTest {
         int before = c.broker.ready();
         c.tell(1, "20 20 1");
         c.channelIs(1, 1, 24);
-        c.is("ready()", c.broker.ready(), before + 7 + 24 * 51);
+        c.readyIs(before + 7 + 24 * 51);
     }
 }

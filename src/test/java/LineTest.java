@@ -23,8 +23,8 @@ public final class LineTest {
     private static void newObject() {
         Client c = new Client("a new object");
         c.lineIs(0);
-        c.is("ready()", c.broker.ready(), 0);
-        c.is("receive()", c.broker.receive(), LetterBroker.NONE);
+        c.readyIs(0);
+        c.receiveIs(LetterBroker.NONE);
         c.stepIs(0);
         c.queueIs(0, 0, LetterBroker.NONE);
         for (int channel = 1; channel <= 3; channel++) {
@@ -44,23 +44,23 @@ public final class LineTest {
 
     private static void sendCountsBytes() {
         Client c = new Client("send counts");
-        c.is("send", c.broker.send(65, 1), 1);
-        c.is("send", c.broker.send(77 << 8 | 81, 2), 3);
+        c.sendIs(65, 1, 1);
+        c.sendIs(77 << 8 | 81, 2, 3);
         c.stepIs(0);
-        c.is("send", c.broker.send(80L << 32 | 9 << 8 | 1, 5), 8);
+        c.sendIs(80L << 32 | 9 << 8 | 1, 5, 8);
         c.stepIs(1);
-        c.is("send", c.broker.send(1, 1), 1);
+        c.sendIs(1, 1, 1);
     }
 
     private static void sendTakesTheLowestBytesHighestFirst() {
         Client c = new Client("send takes the lowest bytes");
-        c.is("send", c.broker.send(0x7777414D5150L, 4), 4);
-        c.is("send", c.broker.send(0xFFFFFFFF00000901L, 4), 8);
+        c.sendIs(0x7777414D5150L, 4, 4);
+        c.sendIs(0xFFFFFFFF00000901L, 4, 8);
         c.stepIs(1);
         c.lineIs(1);
         c.due("1/0 10 10");
         Client d = new Client("send of eight bytes, the first above 127");
-        d.is("send", d.broker.send(0xFF00000000000000L, 8), 8);
+        d.sendIs(0xFF00000000000000L, 8, 8);
         d.stepIs(1);
         d.hardIs(501);
     }
@@ -68,19 +68,19 @@ public final class LineTest {
     private static void sendRefuses() {
         Client c = new Client("send refuses");
         for (int n : new int[] {0, -1, 9, Integer.MAX_VALUE, Integer.MIN_VALUE}) {
-            c.is("send(1, " + n + ")", c.broker.send(1, n), LetterBroker.NONE);
+            c.sendIs(1, n, LetterBroker.NONE);
         }
         for (int i = 1; i <= 37; i++) {
-            c.is("send", c.broker.send(65, 8), 8 * i);
+            c.sendIs(65, 8, 8 * i);
         }
-        c.is("send of 5 to 296", c.broker.send(65, 5), LetterBroker.NONE);
-        c.is("send of 3 to 296", c.broker.send(65, 3), 299);
-        c.is("send of 2 to 299", c.broker.send(65, 2), LetterBroker.NONE);
-        c.is("send of 1 to 299", c.broker.send(65, 1), 300);
-        c.is("send of 1 to 300", c.broker.send(65, 1), LetterBroker.NONE);
+        c.sendIs(65, 5, LetterBroker.NONE);
+        c.sendIs(65, 3, 299);
+        c.sendIs(65, 2, LetterBroker.NONE);
+        c.sendIs(65, 1, 300);
+        c.sendIs(65, 1, LetterBroker.NONE);
         c.stepIs(1);
         c.lineIs(5);
-        c.is("send to a shut line", c.broker.send(65, 1), LetterBroker.NONE);
+        c.sendIs(65, 1, LetterBroker.NONE);
     }
 
     private static void greeting() {
@@ -94,7 +94,7 @@ public final class LineTest {
         c.lineIs(1);
         c.due("1/0 10 10");
         c.stepIs(0);
-        c.is("send", c.broker.send(0, 1), 2);
+        c.sendIs(0, 1, 2);
         Client d = new Client("nothing behind the greeting");
         d.send("65 77 81 80 0 0 9 1");
         d.stepIs(1);
@@ -145,7 +145,7 @@ public final class LineTest {
         c.stepIs(1);
         c.channelIs(1, 0, 1);
         c.channelIs(2, 0, 0);
-        c.is("send", c.broker.send(10, 1), 11);
+        c.sendIs(10, 1, 11);
         c.stepIs(1);
         c.channelIs(2, 0, 1);
         c.stepIs(0);
@@ -185,23 +185,22 @@ public final class LineTest {
 
     private static void wrongTurns() {
         String[] told = {"10 10", "10 11", "10 30", "10 31", "10 40", "10 41", "10 50", "10 51", "20 10", "50 10 'q' 0"};
-        String[] right = {"10 11", "10 31", "10 40", "10 50"};
         for (int state = 1; state <= 4; state++) {
             for (String method : told) {
-                if (!method.equals(right[state - 1])) {
-                    Client c = inState("state " + state + " method " + method, state);
+                if (!method.equals(Client.LINE_METHODS[state - 1])) {
+                    Client c = Client.inState("state " + state + " method " + method, state);
                     c.tell(0, method);
                     c.hardIs(503);
                 }
             }
         }
         for (int state = 1; state <= 3; state++) {
-            Client c = inState("a channel's method in state " + state, state);
+            Client c = Client.inState("a channel's method in state " + state, state);
             c.tell(1, "20 10");
             c.hardIs(503);
         }
         for (String method : new String[] {"10 50", "20 40", "20 41", "20 11", "50 10 'q' 0", "90 10", "7 7", "60 60"}) {
-            Client c = inState("on a closed channel " + method, 4);
+            Client c = Client.inState("on a closed channel " + method, 4);
             c.tell(2, method);
             c.hardIs(503);
         }
@@ -213,36 +212,24 @@ public final class LineTest {
         }
     }
 
-    private static Client inState(String story, int state) {
-        Client c = new Client(story);
-        c.send("65 77 81 80 0 0 9 1");
-        c.stepIs(1);
-        for (int i = 1; i < state; i++) {
-            c.tell(0, new String[] {"10 11", "10 31", "10 40"}[i - 1]);
-        }
-        c.forget();
-        c.lineIs(state);
-        return c;
-    }
-
     private static void wrongPayloads() {
         for (int state = 1; state <= 4; state++) {
-            String right = new String[] {"10 11", "10 31", "10 40", "10 50"}[state - 1];
+            String right = Client.LINE_METHODS[state - 1];
             for (int channel = 0; channel <= 1; channel++) {
                 for (String payload : new String[] {"", "10"}) {
-                    Client c = inState("state " + state + " payload " + payload, state);
+                    Client c = Client.inState("state " + state + " payload " + payload, state);
                     c.tell(channel, payload);
                     c.hardIs(501);
                 }
             }
-            Client c = inState("state " + state + " too much payload", state);
+            Client c = Client.inState("state " + state + " too much payload", state);
             c.tell(0, right + " 0");
             c.hardIs(501);
         }
-        Client c = inState("503 before 501", 2);
+        Client c = Client.inState("503 before 501", 2);
         c.tell(0, "10 40 1 2 3");
         c.hardIs(503);
-        Client d = inState("too much to open a channel", 4);
+        Client d = Client.inState("too much to open a channel", 4);
         d.tell(1, "20 10 0");
         d.hardIs(501);
         Client e = Client.open("too much to open an open channel", 1);
@@ -254,7 +241,7 @@ public final class LineTest {
         for (int kind = 2; kind <= 3; kind++) {
             for (int channel = 0; channel <= 1; channel++) {
                 for (int state = 1; state <= 4; state++) {
-                    Client c = inState("kind " + kind + " on channel " + channel + " in state " + state, state);
+                    Client c = Client.inState("kind " + kind + " on channel " + channel + " in state " + state, state);
                     c.frame(kind, channel, "1");
                     c.hardIs(505);
                 }
@@ -267,19 +254,19 @@ public final class LineTest {
         for (int i = 0; i < 83; i++) {
             c.tell(1, "60 10 0");
         }
-        c.is("ready()", c.broker.ready(), 498);
+        c.readyIs(498);
         c.tell(1, "60 10 0");
-        c.is("ready()", c.broker.ready(), 504);
+        c.readyIs(504);
         c.send("1 1 3 60 10 0 206");
         c.stepIs(LetterBroker.NONE);
         for (int i = 0; i < 4; i++) {
-            c.is("receive()", c.broker.receive(), new int[] {1, 1, 2, 60}[i]);
+            c.receiveIs(new int[] {1, 1, 2, 60}[i]);
         }
         c.stepIs(LetterBroker.NONE);
-        c.is("receive()", c.broker.receive(), 11);
-        c.is("ready()", c.broker.ready(), 499);
+        c.receiveIs(11);
+        c.readyIs(499);
         c.stepIs(1);
-        c.is("ready()", c.broker.ready(), 505);
+        c.readyIs(505);
         c.stepIs(LetterBroker.NONE);
     }
 
@@ -302,7 +289,7 @@ public final class LineTest {
         c.queueIs(0, 0, 2);
         c.queueIs(0, 1, 0);
         c.stepIs(LetterBroker.NONE);
-        c.is("connect()", c.broker.connect() ? 1 : 0, 1);
+        c.connectIs(true);
         c.channelIs(1, 2, 2);
         c.openLine();
         c.tell(1, "20 10");
@@ -313,14 +300,14 @@ public final class LineTest {
     }
 
     private static void shutLineForgetsUnhandledBytes() {
-        Client c = inState("a shut line forgets bytes", 4);
+        Client c = Client.inState("a shut line forgets bytes", 4);
         c.send("1 0 2 10 50 206 9 9 9");
         c.stepIs(1);
         c.due("1/0 10 51");
         c.stepIs(LetterBroker.NONE);
-        c.is("connect()", c.broker.connect() ? 1 : 0, 1);
+        c.connectIs(true);
         c.stepIs(0);
-        c.is("send", c.broker.send(65, 1), 1);
+        c.sendIs(65, 1, 1);
         Client d = Client.open("a lost channel of a shut line is closed", 1);
         d.tell(1, "60 70 'q' 0");
         d.softIs(1, 404);
@@ -332,14 +319,14 @@ public final class LineTest {
 
     private static void connectKeepsWhatWaits() {
         Client c = new Client("connect");
-        c.is("connect()", c.broker.connect() ? 1 : 0, 0);
+        c.connectIs(false);
         c.openLine();
-        c.is("connect()", c.broker.connect() ? 1 : 0, 0);
+        c.connectIs(false);
         c.forget();
         c.tell(0, "10 50");
-        c.is("connect()", c.broker.connect() ? 1 : 0, 1);
+        c.connectIs(true);
         c.lineIs(0);
-        c.is("connect()", c.broker.connect() ? 1 : 0, 0);
+        c.connectIs(false);
         c.send("65 77 81 80 0 0 9 1");
         c.stepIs(1);
         c.due("1/0 10 51", "1/0 10 10");

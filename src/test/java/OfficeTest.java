@@ -35,17 +35,6 @@ public final class OfficeTest {
         }
     }
 
-    private static void soft(String story, int number, String... methods) {
-        Client c = Client.open(story, 1);
-        for (int i = 0; i < methods.length; i++) {
-            if (i == methods.length - 1) {
-                c.forget();
-            }
-            c.tell(1, methods[i]);
-        }
-        c.softIs(1, number);
-    }
-
     private static void declaringExchanges() {
         Client c = Client.open("declaring exchanges", 1);
         for (int kind = 0; kind <= 2; kind++) {
@@ -57,13 +46,13 @@ public final class OfficeTest {
     }
 
     private static void exchangeMistakes() {
-        soft("an exchange that must be there", 404, "40 10 'e' 0 1");
-        soft("an exchange that must be there, another byte", 404, "40 10 'e' 0 200");
-        soft("the nameless exchange", 403, "40 10 '' 0 0");
-        soft("the nameless exchange that must be there", 403, "40 10 '' 0 1");
-        soft("the nameless exchange of another kind", 403, "40 10 '' 2 0");
-        soft("another kind", 406, "40 10 'e' 0 0", "40 10 'e' 1 0");
-        soft("another kind, and it must be there", 406, "40 10 'e' 2 0", "40 10 'e' 0 1");
+        Client.soft("an exchange that must be there", 404, "40 10 'e' 0 1");
+        Client.soft("an exchange that must be there, another byte", 404, "40 10 'e' 0 200");
+        Client.soft("the nameless exchange", 403, "40 10 '' 0 0");
+        Client.soft("the nameless exchange that must be there", 403, "40 10 '' 0 1");
+        Client.soft("the nameless exchange of another kind", 403, "40 10 '' 2 0");
+        Client.soft("another kind", 406, "40 10 'e' 0 0", "40 10 'e' 1 0");
+        Client.soft("another kind, and it must be there", 406, "40 10 'e' 2 0", "40 10 'e' 0 1");
     }
 
     private static void sixExchanges() {
@@ -86,10 +75,10 @@ public final class OfficeTest {
     }
 
     private static void deletingExchanges() {
-        soft("no exchange to delete", 404, "40 20 'e' 0");
-        soft("deleting the nameless one", 403, "40 20 '' 0");
-        soft("deleting the nameless one if it is not bound", 403, "40 20 '' 1");
-        soft("deleting a bound one", 406, "40 10 'e' 0 0", "50 10 'q' 0", "50 20 'q' 'e' 'k'", "40 20 'e' 1");
+        Client.soft("no exchange to delete", 404, "40 20 'e' 0");
+        Client.soft("deleting the nameless one", 403, "40 20 '' 0");
+        Client.soft("deleting the nameless one if it is not bound", 403, "40 20 '' 1");
+        Client.soft("deleting a bound one", 406, "40 10 'e' 0 0", "50 10 'q' 0", "50 20 'q' 'e' 'k'", "40 20 'e' 1");
         Client c = Client.open("deleting exchanges", 1);
         c.tell(1, "40 10 'e' 0 0");
         c.tell(1, "40 10 'f' 0 0");
@@ -111,9 +100,9 @@ public final class OfficeTest {
     }
 
     private static void declaringQueues() {
-        soft("a queue that must be there", 404, "50 10 'q' 1");
-        soft("the nameless queue", 403, "50 10 '' 0");
-        soft("the nameless queue that must be there", 404, "50 10 '' 1");
+        Client.soft("a queue that must be there", 404, "50 10 'q' 1");
+        Client.soft("the nameless queue", 403, "50 10 '' 0");
+        Client.soft("the nameless queue that must be there", 404, "50 10 '' 1");
         Client c = Client.open("declaring queues", 2);
         c.tell(1, "50 10 'q' 0");
         c.due("1/1 50 11 'q' 0 0");
@@ -168,11 +157,11 @@ public final class OfficeTest {
 
     private static void bindingMistakes() {
         for (String method : new String[] {"50 20", "50 50"}) {
-            soft("no queue " + method, 404, "40 10 'e' 0 0", method + " 'q' 'e' 'k'");
-            soft("no exchange " + method, 404, "50 10 'q' 0", method + " 'q' 'e' 'k'");
-            soft("neither " + method, 404, method + " 'q' 'e' 'k'");
-            soft("no queue, the nameless exchange " + method, 404, method + " 'q' '' 'k'");
-            soft("the nameless exchange " + method, 403, "50 10 'q' 0", method + " 'q' '' 'q'");
+            Client.soft("no queue " + method, 404, "40 10 'e' 0 0", method + " 'q' 'e' 'k'");
+            Client.soft("no exchange " + method, 404, "50 10 'q' 0", method + " 'q' 'e' 'k'");
+            Client.soft("neither " + method, 404, method + " 'q' 'e' 'k'");
+            Client.soft("no queue, the nameless exchange " + method, 404, method + " 'q' '' 'k'");
+            Client.soft("the nameless exchange " + method, 403, "50 10 'q' 0", method + " 'q' '' 'q'");
         }
     }
 
@@ -219,7 +208,7 @@ public final class OfficeTest {
     }
 
     private static void purging() {
-        soft("no queue to purge", 404, "50 30 'q'");
+        Client.soft("no queue to purge", 404, "50 30 'q'");
         Client c = Client.open("purging", 1);
         c.tell(1, "50 10 'q' 0");
         c.publish(1, "''", "'q'");
@@ -241,8 +230,8 @@ public final class OfficeTest {
     }
 
     private static void deletingQueues() {
-        soft("no queue to delete", 404, "50 40 'q' 0");
-        soft("the nameless queue is not there", 404, "50 40 '' 0");
+        Client.soft("no queue to delete", 404, "50 40 'q' 0");
+        Client.soft("the nameless queue is not there", 404, "50 40 '' 0");
         Client c = Client.open("deleting queues", 2);
         c.tell(1, "40 10 'e' 1 0");
         c.tell(1, "50 10 'q' 0");
