@@ -116,8 +116,8 @@ public final class ChannelEdgesTest {
     private static void lostDoesNothing() {
         Client c = withQueue("a lost one", LOST);
         end(c, LOST);
-        for (String payload : new String[] {"50 10 'p' 0", "60 40 '' 'q' 0", "60 20 'q' 't' 0", "50 40 'q' 0", "20 10", "20 40",
-            "90 10", "10 50", "0 0", "", "20"}) {
+        for (String payload : new String[] {"50 10 'p' 0", "60 40 '' 'q' 0", "60 20 'q' 't' 0", "50 40 'q' 0", "20 10",
+            "20 40", "90 10", "10 50", "0 0", "", "20"}) {
             c.tell(1, payload);
             c.channelIs(1, 0, 2);
         }
@@ -148,7 +148,8 @@ public final class ChannelEdgesTest {
     private static void lostIsClosedByNothingElse() {
         Client c = withQueue("almost 20 41", LOST);
         end(c, LOST);
-        for (String payload : new String[] {"20 41 0", "20 41 20 41", "20 40", "20 42", "21 41", "19 41", "20", "", "41 20", "0 20 41"}) {
+        for (String payload : new String[] {"20 41 0", "20 41 20 41", "20 40", "20 42", "21 41", "19 41", "20", "",
+            "41 20", "0 20 41"}) {
             c.tell(1, payload);
             c.channelIs(1, 0, 2);
         }
@@ -287,7 +288,7 @@ public final class ChannelEdgesTest {
         c.channelIs(1, 1, 1);
     }
 
-    /** "a letter that is not complete is gone": its line alone can be shut, for a channel where one is due hears nothing else. */
+    /** "a letter that is not complete is gone": when the line is shut, for all else is 505 where a head or body is due. */
     private static void incompleteLetterIsGone() {
         for (int end = LINE_CLOSED; end <= LINE_SHUT; end++) {
             for (int length = 0; length <= 3; length++) {

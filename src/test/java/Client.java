@@ -125,6 +125,11 @@ final class Client {
         is("channel(" + c + ", " + what + ")", broker.channel(c, what), due);
     }
 
+    int latestN(int channel) {
+        count();
+        return broker.channel(channel, 2);
+    }
+
     void queueIs(int q, int what, int due) {
         is("queue(" + q + ", " + what + ")", broker.queue(q, what), due);
     }

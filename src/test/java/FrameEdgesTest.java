@@ -6,8 +6,8 @@ import java.util.List;
  */
 public final class FrameEdgesTest {
     /** A name stands for %; of the names beside it there are an exchange e and a queue q. */
-    private static final String[] WITH_A_NAME = {"40 10 % 0 0", "40 20 % 0", "50 10 % 0", "50 20 % 'e' 'k'", "50 20 'q' % 'k'",
-        "50 20 'q' 'e' %", "50 50 % 'e' 'k'", "50 50 'q' % 'k'", "50 50 'q' 'e' %", "50 30 %", "50 40 % 0", "60 20 % 't' 0",
+    private static final String[] WITH_A_NAME = {"40 10 % 0 0", "40 20 % 0", "50 10 % 0", "50 20 % 'e' 'k'",
+        "50 20 'q' % 'k'", "50 20 'q' 'e' %", "50 50 % 'e' 'k'", "50 50 'q' % 'k'", "50 50 'q' 'e' %", "50 30 %", "50 40 % 0", "60 20 % 't' 0",
         "60 20 'q' % 0", "60 30 %", "60 40 % 'k' 0", "60 40 'e' % 0", "60 70 % 0"};
     /** All right on a channel that withAll() made. */
     private static final String[] CHANNEL_METHODS = {"20 20 1", "20 40", "40 10 'e' 0 0", "40 20 'e' 0", "50 10 'q' 0",
@@ -234,7 +234,7 @@ public final class FrameEdgesTest {
         }
     }
 
-    /** "its kind (1 METHOD, 2 HEAD, 3 BODY)"; "501, if the bytes can't be those of a frame (..as soon as one is wrong)" */
+    /** "its kind (1 METHOD, 2 HEAD, 3 BODY)"; "501, if the bytes can't be those of a frame .. (as soon as one is wrong)". */
     private static void kindsOfFrames() {
         for (int kind = 0; kind <= 255; kind++) {
             beginningIs("" + kind, kind >= 1 && kind <= 3);
@@ -672,7 +672,7 @@ public final class FrameEdgesTest {
     /** "What a frame is looked at for, in this order: a lost channel" */
     private static void lostComesFirst() {
         for (int kind = 1; kind <= 3; kind++) {
-            for (String payload : new String[] {"", "20", "99 99", "10 50", "20 10", "20 40", "20 41 0", "60 10 0", "60 10"}) {
+            for (String payload : new String[] {"", "20", "99 99", "10 50", "20 10", "20 40", "20 41 0", "60 10"}) {
                 Client c = lost("on a lost channel kind " + kind + " with " + payload);
                 c.frame(kind, 1, payload);
                 c.due();

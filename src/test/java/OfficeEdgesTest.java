@@ -201,8 +201,11 @@ public final class OfficeEdgesTest {
             answeredBy(c, "50 20 'q' 'e' 'k'", "50 21");
             softAndReopened(c, "40 20 'e' " + f, 406);
             c.queueIs(0, 2, 1);
+            answeredBy(c, "40 10 'f' 0 0", "40 11");
+            answeredBy(c, "50 20 'q' 'f' 'k'", "50 21");
             answeredBy(c, "50 50 'q' 'e' 'k'", "50 51");
             answeredBy(c, "40 20 'e' " + f, "40 21");
+            c.queueIs(0, 2, 1);
         }
     }
 
@@ -517,9 +520,12 @@ public final class OfficeEdgesTest {
             c.forget();
             softAndReopened(c, "50 40 'q' " + b, 406);
             c.queueIs(0, 1, 1);
+            c.tell(2, "50 10 'p' 0");
+            c.tell(2, "60 20 'p' 'u' 0");
             c.tell(2, "60 30 't'");
             c.forget();
             answeredBy(c, "50 40 'q' " + b, "50 41 0");
+            c.queueIs(0, 1, 1);
         }
     }
 
@@ -530,9 +536,12 @@ public final class OfficeEdgesTest {
             c.publish(2, "''", "'q'");
             softAndReopened(c, "50 40 'q' " + b, 406);
             c.queueIs(0, 0, 1);
+            c.tell(2, "50 10 'p' 0");
+            c.publish(2, "''", "'p'");
             c.tell(2, "60 70 'q' 0");
             c.forget();
             answeredBy(c, "50 40 'q' " + b, "50 41 0");
+            c.queueIs(0, 0, 1);
             c.channelIs(2, 1, 1);
         }
     }
