@@ -40,6 +40,7 @@ public final class CallEdgesTest {
         lineInEachState();
         connectWhenNotShut();
         connectWhenShut();
+        connectAfterEachMistake();
         connectKeepsWhatWaits();
         connectKeepsQueuesAndLetters();
         channelStates();
@@ -503,6 +504,22 @@ public final class CallEdgesTest {
         c.send("65 77 81 80 0 0 9 1");
         c.stepIs(1);
         c.due("1/0 10 10");
+    }
+
+    /** "A shut line becomes a new one": whatever mistake shut the other. */
+    private static void connectAfterEachMistake() {
+        for (String wrong : new String[] {"1 0 1 10 206", "1 1 2 60 10 206", "1 1 5 60 30 9 0 0 206", "2 1 0 206", "1 1 2 0 0 206",
+            "1 3 2 20 40 206", "0", "1 4", "1 0 41", "1 0 0 0", "1 0 2 10 50 206"}) {
+            Client c = Client.open("connect after " + wrong, 1);
+            c.send(wrong);
+            c.stepIs(1);
+            c.lineIs(5);
+            c.connectIs(true);
+            c.forget();
+            c.openLine();
+            c.tell(1, "20 10");
+            c.due("1/0 10 10", "1/0 10 30", "1/0 10 41", "1/1 20 11");
+        }
     }
 
     /** "(What waits to be received stays.)" */

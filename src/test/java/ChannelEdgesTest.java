@@ -156,6 +156,9 @@ public final class ChannelEdgesTest {
         c.frame(2, 1, "20 41");
         c.frame(3, 1, "20 41");
         c.channelIs(1, 0, 2);
+        c.tell(1, "20");
+        c.tell(1, "20 41");
+        c.channelIs(1, 0, 0);
         c.due();
     }
 

@@ -7,8 +7,8 @@ import java.util.List;
 public final class FrameEdgesTest {
     /** A name stands for %; of the names beside it there are an exchange e and a queue q. */
     private static final String[] WITH_A_NAME = {"40 10 % 0 0", "40 20 % 0", "50 10 % 0", "50 20 % 'e' 'k'",
-        "50 20 'q' % 'k'", "50 20 'q' 'e' %", "50 50 % 'e' 'k'", "50 50 'q' % 'k'", "50 50 'q' 'e' %", "50 30 %", "50 40 % 0", "60 20 % 't' 0",
-        "60 20 'q' % 0", "60 30 %", "60 40 % 'k' 0", "60 40 'e' % 0", "60 70 % 0"};
+        "50 20 'q' % 'k'", "50 20 'q' 'e' %", "50 50 % 'e' 'k'", "50 50 'q' % 'k'", "50 50 'q' 'e' %", "50 30 %",
+        "50 40 % 0", "60 20 % 't' 0", "60 20 'q' % 0", "60 30 %", "60 40 % 'k' 0", "60 40 'e' % 0", "60 70 % 0"};
     /** All right on a channel that withAll() made. */
     private static final String[] CHANNEL_METHODS = {"20 20 1", "20 40", "40 10 'e' 0 0", "40 20 'e' 0", "50 10 'q' 0",
         "50 20 'q' 'e' 'k'", "50 50 'q' 'e' 'k'", "50 30 'q'", "50 40 'q' 0", "60 10 0", "60 20 'q' 't' 0", "60 30 't'",

@@ -29,6 +29,8 @@ public final class LetterEdgesTest {
         emptyWords();
         emptyKey();
         mostWords();
+        longestWord();
+        onlyDotsAreBetween();
         starsAndHashesInsideWords();
         topicsOneByOne();
         upTo24();
@@ -432,6 +434,29 @@ public final class LetterEdgesTest {
         comes(2, "*.*.*.*", "a.b.c", false);
         comes(2, "*.*.*.*", "....", false);
         comes(2, "#.#.#.#", "........", true);
+        comes(2, "#.d", ".a.b.c.d", true);
+        comes(2, "a.#", "a.b.c.d.", true);
+        comes(2, ".a.b.c.d", ".a.b.c.d", true);
+    }
+
+    /** A name of 8 bytes: one word, each byte of which counts. */
+    private static void longestWord() {
+        comes(2, "abcdefgh", "abcdefgh", true);
+        for (String key : new String[] {"cbcdefgh", "abcdefgi", "abcdEfgh", "abcdefg", "bcdefgh", "hgfedcba"}) {
+            comes(2, "abcdefgh", key, false);
+            comes(2, key, "abcdefgh", false);
+        }
+    }
+
+    /** "words, with dots between": with nothing else between. */
+    private static void onlyDotsAreBetween() {
+        for (String other : new String[] {"-", "/", ",", ":", "!", "~", "n", "*", "#"}) {
+            comes(2, "*", "a" + other + "b", true);
+            comes(2, "*.b", "a" + other + "a.b", true);
+            comes(2, "*.*", "a" + other + "b", false);
+            comes(2, "a" + other + "b", "a.b", false);
+            comes(2, "a.b", "a" + other + "b", false);
+        }
     }
 
     /** "* is any one word, # any number of them": only as a word for itself. */
