@@ -13,6 +13,7 @@ public final class LetterEdgesTest {
         gettingFromNoQueue();
         gettingWhenNoneWaits();
         gettingTheLastAndTheFirstOf24();
+        gettingTheLongest();
         gettingWithoutHolding();
         numbersBeginWith1();
         oneNumberForEachQueue();
@@ -168,6 +169,18 @@ public final class LetterEdgesTest {
         d.tell(1, "60 70 'q' 0");
         d.tell(1, "60 70 'q' 0");
         d.due("1/1 60 71 #1 0 '' 'q' 1", "2/1 0", "1/1 60 71 #2 0 '' 'q' 0", "2/1 0");
+    }
+
+    /** "60 71, its N, r, E, K, and how many wait behind it, and a head and (if it has bytes) one body": the longest. */
+    private static void gettingTheLongest() {
+        Client c = Client.open("getting the longest", 2);
+        c.tell(1, "40 10 'exchange' 0 0");
+        c.tell(1, "50 10 'longname' 0");
+        c.tell(1, "50 20 'longname' 'exchange' '12345678'");
+        publish(c, 1, "'exchange' '12345678' 1", "9 8 7 6 5 4");
+        c.forget();
+        c.tell(2, "60 70 'longname' 0");
+        c.due("1/2 60 71 #1 0 'exchange' '12345678' 0", "2/2 6", "3/2 9 8 7 6 5 4");
     }
 
     /** "60 70 Q f: .. f: without holding it" */
