@@ -48,6 +48,7 @@ public final class AcknowledgeEdgesTest {
         beyond24AtACommit();
         roomAtACommit();
         returnedAtACommit();
+        mostAtACommit();
         exchangeDeletedBeforeTheCommit();
         Client.end();
     }
@@ -730,6 +731,33 @@ public final class AcknowledgeEdgesTest {
         }
         due[24] = "1/1 90 21";
         c.due(due);
+    }
+
+    /** "done in their order .. before 90 21 is sent", and then delivered: the most bytes that one step can send. */
+    private static void mostAtACommit() {
+        Client c = Client.open("the most bytes of one step", 2);
+        c.tell(1, "40 10 'exchange' 1 0");
+        c.tell(1, "40 10 'nobodys1' 1 0");
+        for (int i = 1; i <= 4; i++) {
+            c.tell(1, "50 10 'q" + i + "' 0");
+            c.tell(1, "50 20 'q" + i + "' 'exchange' ''");
+            c.tell(1, "60 20 'q" + i + "' 'tagtagt" + i + "' 0");
+        }
+        c.tell(2, "90 10");
+        for (int i = 1; i <= 12; i++) {
+            c.tell(2, "60 40 " + (i % 2 == 0 ? "'exchange'" : "'nobodys1'") + " '12345678' 1");
+            c.head(2, 6);
+            c.body(2, "1 2 3 4 5 6");
+        }
+        c.readyIs(146);
+        for (int bytes = 146; bytes < 499; bytes += bytes < 181 ? 7 : 6) {
+            c.tell(2, bytes < 181 ? "20 20 1" : "60 10 0");
+        }
+        c.readyIs(499);
+        c.tell(2, "90 20");
+        c.readyIs(499 + 6 * 41 + 6 + 24 * 51);
+        c.channelIs(1, 1, 24);
+        c.stepIs(LetterBroker.NONE);
     }
 
     /** "A complete letter (or one that is committed) .., its exchange being looked up by its name then" */
