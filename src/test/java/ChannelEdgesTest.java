@@ -270,6 +270,8 @@ public final class ChannelEdgesTest {
     /** "limit .. as at first when it is opened" */
     private static void limitIsAsAtFirst(int end) {
         Client c = withQueue("the limit is as at first", end);
+        c.publish(2, "''", "'q'");
+        c.tell(1, "60 70 'q' 1");
         c.tell(1, "60 10 1");
         end(c, end);
         begin(c, end);
@@ -283,6 +285,8 @@ public final class ChannelEdgesTest {
     /** "flow .. as at first when it is opened" */
     private static void flowIsAsAtFirst(int end) {
         Client c = withQueue("the flow is as at first", end);
+        c.publish(2, "''", "'q'");
+        c.tell(1, "60 70 'q' 1");
         c.tell(1, "20 20 0");
         end(c, end);
         begin(c, end);

@@ -33,6 +33,7 @@ public final class DeliveryEdgesTest {
         latestHasGoneAndNoneCameAfter();
         latestHasGoneAndCameAgain();
         anotherThanTheLatestHasGone();
+        latestStays();
         eachQueueHasItsLatest();
         queueDeclaredAgainBeginsAtFirst();
         afterASoftMistake();
@@ -445,6 +446,22 @@ public final class DeliveryEdgesTest {
         servedIs(c, 2, "'u'");
         tell(c, 1, "60 30 'v'");
         servedIs(c, 2, "'u'");
+    }
+
+    /** "the queue's latest delivery": what is no delivery does not change it. */
+    private static void latestStays() {
+        for (String method : new String[] {"50 30 'q'", "50 10 'q' 0", "60 110", "60 10 5", "60 80 #0 1", "60 30 'none'"}) {
+            Client c = withThree("the latest stays after " + method);
+            servedIs(c, 1, "'t'");
+            tell(c, 2, "20 20 0");
+            tell(c, 1, "20 20 0");
+            publish(c, 1);
+            tell(c, 3, "60 70 'q' 1");
+            tell(c, 3, method);
+            tell(c, 2, "20 20 1");
+            tell(c, 1, "20 20 1");
+            servedIs(c, 2, "'u'");
+        }
     }
 
     /** "the queue's latest delivery": each queue's own; and a get is none. */
