@@ -42,6 +42,7 @@ public final class AcknowledgeEdgesTest {
         inTheirOrder();
         notHeldAnyMore();
         allThatItHoldsThen();
+        upToOneThatIsDeliveredLater();
         beforeTheAnswer();
         rollingBack();
         upTo24AtACommit();
@@ -615,6 +616,22 @@ public final class AcknowledgeEdgesTest {
             c.tell(1, "60 70 'q' 0");
             c.tell(1, "90 20");
             c.channelIs(1, 1, 1);
+        }
+    }
+
+    /** "until it commits: then they are done": up to an N that was not delivered yet when the method came */
+    private static void upToOneThatIsDeliveredLater() {
+        for (String method : each("#5", 1)) {
+            Client c = transacted("up to one that is delivered later, " + method);
+            c.tell(1, method);
+            for (int i = 5; i <= 6; i++) {
+                c.publish(2, "''", "'q'");
+                c.tell(1, "60 70 'q' 0");
+            }
+            c.channelIs(1, 1, 6);
+            c.tell(1, "90 20");
+            c.channelIs(1, 1, 1);
+            c.queueIs(0, 0, isBack(method) ? 5 : 0);
         }
     }
 
